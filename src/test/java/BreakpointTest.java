@@ -1,158 +1,286 @@
-/** Promises 4, 5 and 17: setting and clearing a breakpoint, and which lines have code. */
+/** Promises 4, 5 and 17 (breakpoints, lines with code): a test for each sentence that names a boundary. */
 public final class BreakpointTest {
+    /** Lines 6, 7 and 14 are ENDs of IFs: 6 and 7 lie together, 14 is the last. */
+    private static final String NESTED = "SET 0 1; WHILE 0; IF 0; IF 0; OP 0 0 -1; END; END; END; CALL 0; PROC 0; RET; END;"
+            + " IF 2; END";
+    private static final String NESTED_CODE = "11111001111110";
+
     public static void main(String[] args) {
-        everyKindHasCode();
-        hasNoCodeWhileEditing();
-        slidesToTheNextCode();
-        refusesWhereNoCodeFollows();
-        refusesWrongLines();
-        refusesWhileEditing();
-        worksInEveryOtherState();
-        setsTwiceAndClearsOnce();
-        clearsOnlyTheLineItself();
-        refusesWrongClears();
-        stopsAtWhatWasSetAlone();
+        setting();
+        clearing();
+        havingCode();
         Check.end();
     }
 
-    /** Lines 6, 7 and 14 are ENDs of IFs: 6 and 7 lie together, 14 is the last. */
-    private static int[][] nested() {
-        return new int[][] {
-            Check.set(0, 1), Check.loop(0), Check.when(0), Check.when(0), Check.op(0, 0, -1), Check.close(),
-            Check.close(), Check.close(), Check.call(0), Check.proc(0), Check.ret(), Check.close(), Check.when(2),
-            Check.close()};
+    private static void setting() {
+        Check.sentence("`setBreakpoint(line)` is refused (answers 0, nothing changes) if any of these holds: state is"
+                + " `S_EDITING`;", BreakpointTest::setsNoneWhileEditing);
+        Check.sentence("line < 1 or line > count;", BreakpointTest::setsNoneOutside);
+        Check.sentence("no line y with line <= y <= count has code.", BreakpointTest::setsNoneWhereNoCodeFollows);
+        Check.sentence("Otherwise let y be the least such line.", BreakpointTest::slidesToTheLeastLine);
+        Check.sentence("A breakpoint is put on y (no change if one is already there), and the answer is y.",
+                BreakpointTest::setsTwiceAsOnce);
+        Check.sentence("So every non-zero answer y is the least line y >= line with `hasCode(y)` true.",
+                BreakpointTest::answersTheLeastLineWithCode);
+        Check.sentence("This is allowed in `S_READY`, `S_PAUSED`, `S_FINISHED` and `S_FAULTED`, and changes neither state,"
+                + " current event, frames, variables nor eventCount.", BreakpointTest::setsInEveryOtherState);
     }
 
-    private static void everyKindHasCode() {
-        LineProgramDbg x = Check.ready(1, 64, nested());
-        for (int line : Check.around(40)) {
-            boolean want = line >= 1 && line <= 14 && line != 6 && line != 7 && line != 14;
-            Check.due("hasCode(" + line + ")", x.hasCode(line), want);
+    private static void clearing() {
+        Check.sentence("`clearBreakpoint(line)` answers false and changes nothing if any of these holds: state is"
+                + " `S_EDITING`;", BreakpointTest::clearsNoneWhileEditing);
+        Check.sentence("line is outside 1..count;", BreakpointTest::clearsNoneOutside);
+        Check.sentence("line carries no breakpoint.", BreakpointTest::clearsNoneWhereNoneIs);
+        Check.sentence("Otherwise it removes that breakpoint and answers true.", BreakpointTest::clears);
+        Check.sentence("Otherwise it removes that breakpoint and answers true. Nothing else changes.",
+                BreakpointTest::clearingChangesNothingElse);
+    }
+
+    private static void havingCode() {
+        Check.sentence("`hasCode(line)` answers false in `S_EDITING`", BreakpointTest::noCodeWhileEditing);
+        Check.sentence("or when line is outside 1..count.", BreakpointTest::noCodeOutside);
+        Check.sentence("Otherwise it answers whether the line has code, that is, true unless the line is an END closing an"
+                + " IF.", BreakpointTest::codeUnlessIfEnd);
+        Check.sentence("that is, true unless the line is an END closing an IF. Nothing changes.",
+                BreakpointTest::askingForCodeChangesNothing);
+    }
+
+    private static void setsNoneWhileEditing() {
+        for (Stage stage : Stage.editing()) {
+            for (int line : Look.around(34)) {
+                stage.unchangedBy("setBreakpoint(" + line + ")", x -> x.setBreakpoint(line), 0);
+            }
         }
     }
 
-    private static void hasNoCodeWhileEditing() {
-        LineProgramDbg x = Check.edited(1, 64, nested());
-        for (int line : Check.around(40)) {
-            Check.due("hasCode(" + line + ") in S_EDITING", x.hasCode(line), false);
+    private static int countOf(Stage stage) {
+        return stage.name.contains("no lines") ? 0 : Stage.COUNT;
+    }
+
+    private static void setsNoneOutside() {
+        for (Stage stage : Stage.compiled()) {
+            int count = countOf(stage);
+            for (int line : new int[] {Integer.MIN_VALUE, -1, 0, count + 1, count + 2, 32, 33, 34, Integer.MAX_VALUE}) {
+                stage.unchangedBy("setBreakpoint(" + line + ")", x -> x.setBreakpoint(line), 0);
+            }
         }
-        LineProgramDbg y = Check.edited(1, 64, Check.set(0, 1), Check.loop(0));
-        Check.due("compile()", y.compile(), 3);
-        Check.due("hasCode(1) after a failed compile", y.hasCode(1), false);
+        LineProgramDbg full = Program.ready(1, 64, Program.times(32, "RET"));
+        Check.due("setBreakpoint(33) of a full program", full.setBreakpoint(33), 0);
+        Check.due("setBreakpoint(0) of a full program", full.setBreakpoint(0), 0);
+        Check.due("setBreakpoint(32) of a full program", full.setBreakpoint(32), 32);
+        Check.due("setBreakpoint(1) of a full program", full.setBreakpoint(1), 1);
     }
 
-    private static void slidesToTheNextCode() {
-        LineProgramDbg x = Check.ready(1, 64, nested());
-        String before = Check.look(x);
-        for (int line = 1; line <= 13; line++) {
-            Check.due("setBreakpoint(" + line + ")", x.setBreakpoint(line), line == 6 || line == 7 ? 8 : line);
+    private static void setsNoneWhereNoCodeFollows() {
+        for (Stage stage : Stage.compiled()) {
+            if (countOf(stage) > 0) {
+                stage.unchangedBy("setBreakpoint(18)", x -> x.setBreakpoint(18), 0);
+            }
         }
-        Check.due("what stands after it", Check.look(x), before);
-        for (int line = 1; line <= 14; line++) {
-            Check.due("clearBreakpoint(" + line + ")", x.clearBreakpoint(line), line != 6 && line != 7 && line != 14);
+        LineProgramDbg x = Program.ready(1, 64, Program.times(16, "IF 0") + "; " + Program.times(16, "END"));
+        for (int line = 17; line <= 32; line++) {
+            Check.due("setBreakpoint(" + line + ") where only ENDs of IFs follow", x.setBreakpoint(line), 0);
         }
-    }
-
-    private static void refusesWhereNoCodeFollows() {
-        LineProgramDbg x = Check.ready(1, 64, nested());
-        Check.due("setBreakpoint(14) at the last END", x.setBreakpoint(14), 0);
-        LineProgramDbg y = Check.ready(1, 64, Check.when(0), Check.when(0), Check.close(), Check.close());
-        Check.due("setBreakpoint(2)", y.setBreakpoint(2), 2);
-        Check.due("setBreakpoint(3)", y.setBreakpoint(3), 0);
-        Check.due("setBreakpoint(4)", y.setBreakpoint(4), 0);
-        Check.due("clearBreakpoint(3)", y.clearBreakpoint(3), false);
-        Check.due("clearBreakpoint(4)", y.clearBreakpoint(4), false);
-    }
-
-    private static void refusesWrongLines() {
-        LineProgramDbg x = Check.ready(1, 64, Check.set(0, 1), Check.set(0, 2));
-        for (int line : new int[] {Integer.MIN_VALUE, -1, 0, 3, 32, 33, 34, Integer.MAX_VALUE}) {
-            Check.due("setBreakpoint(" + line + ")", x.setBreakpoint(line), 0);
-        }
-        Check.due("cont()", x.cont(), LineProgramDbg.R_FINISHED);
-        LineProgramDbg none = Check.ready(1, 64);
-        for (int line : Check.around(34)) {
-            Check.due("setBreakpoint(" + line + ") of no lines", none.setBreakpoint(line), 0);
-            Check.due("clearBreakpoint(" + line + ") of no lines", none.clearBreakpoint(line), false);
-        }
-    }
-
-    private static void refusesWhileEditing() {
-        LineProgramDbg x = Check.edited(1, 64, Check.set(0, 1), Check.set(0, 2));
-        Check.due("setBreakpoint(1) in S_EDITING", x.setBreakpoint(1), 0);
-        Check.due("clearBreakpoint(1) in S_EDITING", x.clearBreakpoint(1), false);
-        Check.due("compile()", x.compile(), 0);
-        Check.due("clearBreakpoint(1) after compile", x.clearBreakpoint(1), false);
-        Check.due("cont()", x.cont(), LineProgramDbg.R_FINISHED);
-    }
-
-    private static void worksInEveryOtherState() {
-        int[][] lines = {Check.set(0, 9), Check.call(0), Check.proc(0), Check.when(1), Check.ret(), Check.close(),
-            Check.call(0), Check.close()};
-        LineProgramDbg x = Check.ready(1, 64, lines);
-        setsAndClears(x, LineProgramDbg.S_READY);
-        x.stepInto();
-        x.stepInto();
-        x.stepInto();
-        setsAndClears(x, LineProgramDbg.S_PAUSED);
-        x.cont();
-        setsAndClears(x, LineProgramDbg.S_FAULTED);
-        LineProgramDbg y = Check.ready(1, 64, Check.set(1, 4), Check.ret(), Check.when(0), Check.ret(), Check.ret(),
-                Check.close(), Check.ret());
-        y.cont();
-        setsAndClears(y, LineProgramDbg.S_FINISHED);
-    }
-
-    private static void setsAndClears(LineProgramDbg x, int state) {
-        String before = Check.look(x);
-        Check.due("state()", x.state(), state);
-        Check.due("setBreakpoint(6) in state " + state, x.setBreakpoint(6), 7);
-        Check.due("what stands after it", Check.look(x), before);
-        Check.due("clearBreakpoint(7) in state " + state, x.clearBreakpoint(7), true);
-        Check.due("what stands after it", Check.look(x), before);
-        Check.due("clearBreakpoint(7) again", x.clearBreakpoint(7), false);
-        Check.due("what stands after it", Check.look(x), before);
-    }
-
-    private static void setsTwiceAndClearsOnce() {
-        LineProgramDbg x = Check.ready(1, 64, Check.set(0, 1), Check.set(0, 2));
-        Check.due("setBreakpoint(2)", x.setBreakpoint(2), 2);
-        Check.due("setBreakpoint(2) again", x.setBreakpoint(2), 2);
-        Check.due("clearBreakpoint(2)", x.clearBreakpoint(2), true);
-        Check.due("cont()", x.cont(), LineProgramDbg.R_FINISHED);
-        Check.due("clearBreakpoint(2) again", x.clearBreakpoint(2), false);
-    }
-
-    private static void clearsOnlyTheLineItself() {
-        LineProgramDbg x = Check.ready(1, 64, nested());
-        Check.due("setBreakpoint(6)", x.setBreakpoint(6), 8);
-        Check.due("clearBreakpoint(6) does not slide", x.clearBreakpoint(6), false);
-        Check.due("clearBreakpoint(7) does not slide", x.clearBreakpoint(7), false);
-        x.setBreakpoint(9);
-        Check.due("clearBreakpoint(8)", x.clearBreakpoint(8), true);
-        Check.due("the other one stays", Check.at(x, x.cont()), Check.row(2, 2, 9, 0, 8));
-    }
-
-    private static void refusesWrongClears() {
-        LineProgramDbg x = Check.ready(1, 64, Check.set(0, 1), Check.set(0, 2));
-        x.setBreakpoint(1);
-        for (int line : new int[] {Integer.MIN_VALUE, -1, 0, 2, 3, 33, 34, Integer.MAX_VALUE}) {
+        Check.due("setBreakpoint(16)", x.setBreakpoint(16), 16);
+        for (int line = 17; line <= 32; line++) {
             Check.due("clearBreakpoint(" + line + ")", x.clearBreakpoint(line), false);
         }
-        Check.due("cont()", Check.at(x, x.cont()), Check.row(2, 2, 1, 0, 1));
     }
 
-    private static void stopsAtWhatWasSetAlone() {
-        for (int line = 1; line <= 32; line++) {
-            LineProgramDbg x = new LineProgramDbg(1, 64);
-            for (int i = 0; i < 32; i++) {
-                x.addLine(LineProgramDbg.K_OP, 0, 0, 1);
+    private static void slidesToTheLeastLine() {
+        LineProgramDbg x = Program.ready(1, 64, NESTED);
+        Check.due("setBreakpoint(5)", x.setBreakpoint(5), 5);
+        Check.due("setBreakpoint(6)", x.setBreakpoint(6), 8);
+        Check.due("clearBreakpoint(8)", x.clearBreakpoint(8), true);
+        Check.due("setBreakpoint(7)", x.setBreakpoint(7), 8);
+        Check.due("setBreakpoint(8)", x.setBreakpoint(8), 8);
+        Run.pauses(x, "cont()", Run.BREAK, 5, 0, 5);
+        Run.pauses(x, "cont()", Run.BREAK, 8, 0, 6);
+        Run.finishes(x, "cont()", 11);
+        // From the first END to a last line far behind it.
+        LineProgramDbg far = Program.ready(1, 64, Program.times(15, "IF 0") + "; " + Program.times(15, "END") + "; RET; RET");
+        Check.due("setBreakpoint(16)", far.setBreakpoint(16), 31);
+        Run.pauses(far, "cont()", Run.BREAK, 31, 0, 2);
+    }
+
+    private static void setsTwiceAsOnce() {
+        LineProgramDbg x = Program.ready(1, 64, "SET 0 1; SET 0 2; SET 0 3");
+        Check.due("setBreakpoint(2)", x.setBreakpoint(2), 2);
+        Check.due("setBreakpoint(2) again", x.setBreakpoint(2), 2);
+        Run.pauses(x, "cont()", Run.BREAK, 2, 0, 2);
+        Check.due("setBreakpoint(2) on the current line", x.setBreakpoint(2), 2);
+        Run.finishes(x, "cont()", 3);
+        Check.due("clearBreakpoint(2)", x.clearBreakpoint(2), true);
+        Check.due("clearBreakpoint(2) again", x.clearBreakpoint(2), false);
+        Check.due("restart()", x.restart(), true);
+        Run.finishes(x, "cont()", 3);
+        for (Stage stage : Stage.compiled()) {
+            if (stage.name.contains("with breakpoints")) {
+                stage.unchangedBy("setBreakpoint(13) where one is", y -> y.setBreakpoint(13), 13);
             }
-            Check.due("compile()", x.compile(), 0);
-            Check.due("setBreakpoint(" + line + ")", x.setBreakpoint(line), line);
-            Check.due("cont() to it", Check.at(x, x.cont()), Check.row(2, 2, line, 0, line));
-            Check.due("the line is not performed", x.variable(0), line - 1);
-            Check.due("cont() past it", Check.at(x, x.cont()), Check.row(4, 3, 0, 0, 32));
+        }
+    }
+
+    private static void answersTheLeastLineWithCode() {
+        String[] texts = {NESTED, Stage.TEXT, Program.times(16, "IF 0; END"), Program.times(10, "IF 0; END; RET")};
+        for (String text : texts) {
+            LineProgramDbg x = Program.ready(1, 64, text);
+            for (int line = 1; line <= Program.lines(text).length; line++) {
+                int y = line;
+                while (y <= 32 && !x.hasCode(y)) {
+                    y++;
+                }
+                Check.due("setBreakpoint(" + line + ")", x.setBreakpoint(line), y > 32 ? 0 : y);
+            }
+        }
+    }
+
+    private static void setsInEveryOtherState() {
+        for (Stage stage : Stage.compiled()) {
+            if (countOf(stage) > 0) {
+                LineProgramDbg x = stage.make();
+                String before = Look.now(x);
+                for (int line = 1; line <= 17; line++) {
+                    int due = line == 5 || line == 14 ? line + 1 : line;
+                    Check.due("setBreakpoint(" + line + ") when " + stage.name, x.setBreakpoint(line), due);
+                    Check.due("the questions after it", Look.now(x), before);
+                }
+                Check.due("clearBreakpoint(6)", x.clearBreakpoint(6), true);
+            }
+        }
+        setsAheadOfAPausedRun();
+    }
+
+    private static void setsAheadOfAPausedRun() {
+        LineProgramDbg x = Program.ready(1, 64, "SET 0 1; SET 0 2; SET 0 3");
+        Run.steps(x, "1");
+        Check.due("setBreakpoint(3)", x.setBreakpoint(3), 3);
+        Run.pauses(x, "cont()", Run.BREAK, 3, 0, 3);
+        Run.finishes(x, "cont()", 3);
+        Check.due("setBreakpoint(1) when finished", x.setBreakpoint(1), 1);
+        Check.due("restart()", x.restart(), true);
+        Run.pauses(x, "cont()", Run.BREAK, 1, 0, 1);
+    }
+
+    private static void clearsNoneWhileEditing() {
+        for (Stage stage : Stage.editing()) {
+            for (int line : Look.around(34)) {
+                stage.unchangedBy("clearBreakpoint(" + line + ")", x -> x.clearBreakpoint(line), false);
+            }
+        }
+    }
+
+    private static void clearsNoneOutside() {
+        for (Stage stage : Stage.compiled()) {
+            int count = countOf(stage);
+            for (int line : new int[] {Integer.MIN_VALUE, -1, 0, count + 1, count + 2, 32, 33, 34, Integer.MAX_VALUE}) {
+                stage.unchangedBy("clearBreakpoint(" + line + ")", x -> x.clearBreakpoint(line), false);
+            }
+        }
+        LineProgramDbg full = Program.ready(1, 64, Program.times(32, "RET"));
+        full.setBreakpoint(1);
+        full.setBreakpoint(32);
+        Check.due("clearBreakpoint(0) of a full program", full.clearBreakpoint(0), false);
+        Check.due("clearBreakpoint(33) of a full program", full.clearBreakpoint(33), false);
+        Check.due("clearBreakpoint(1) of a full program", full.clearBreakpoint(1), true);
+        Check.due("clearBreakpoint(32) of a full program", full.clearBreakpoint(32), true);
+    }
+
+    private static void clearsNoneWhereNoneIs() {
+        for (Stage stage : Stage.compiled()) {
+            // Lines 12 and 14 lie beside the breakpoint on line 13, line 18 is an END of an IF.
+            for (int line : new int[] {2, 5, 12, 14, 16, 18}) {
+                stage.unchangedBy("clearBreakpoint(" + line + ")", x -> x.clearBreakpoint(line), false);
+            }
+        }
+        // It does not slide, as setting does.
+        LineProgramDbg x = Program.ready(1, 64, NESTED);
+        Check.due("setBreakpoint(6)", x.setBreakpoint(6), 8);
+        Check.due("clearBreakpoint(6)", x.clearBreakpoint(6), false);
+        Check.due("clearBreakpoint(7)", x.clearBreakpoint(7), false);
+        Check.due("clearBreakpoint(8)", x.clearBreakpoint(8), true);
+        Check.due("clearBreakpoint(8) again", x.clearBreakpoint(8), false);
+    }
+
+    private static void clears() {
+        for (Stage stage : Stage.compiled()) {
+            if (countOf(stage) > 0) {
+                LineProgramDbg x = stage.make();
+                Check.due("setBreakpoint(9) when " + stage.name, x.setBreakpoint(9), 9);
+                Check.due("clearBreakpoint(9) when " + stage.name, x.clearBreakpoint(9), true);
+                Check.due("clearBreakpoint(9) again", x.clearBreakpoint(9), false);
+            }
+        }
+        LineProgramDbg x = Program.ready(1, 64, "SET 0 1; SET 0 2");
+        x.setBreakpoint(2);
+        Check.due("clearBreakpoint(2)", x.clearBreakpoint(2), true);
+        Run.finishes(x, "cont()", 2);
+    }
+
+    private static void clearingChangesNothingElse() {
+        for (Stage stage : Stage.compiled()) {
+            if (countOf(stage) > 0) {
+                // One set and cleared again leaves all as it was, the other breakpoints too.
+                stage.unchangedBy("setBreakpoint(15) and clearBreakpoint(15)",
+                        x -> x.setBreakpoint(15) == 15 && x.clearBreakpoint(15), true);
+                LineProgramDbg x = stage.make();
+                x.setBreakpoint(13);
+                String before = Look.now(x);
+                Check.due("clearBreakpoint(13)", x.clearBreakpoint(13), true);
+                Check.due("the questions after it", Look.now(x), before);
+            }
+        }
+        LineProgramDbg x = Program.ready(1, 64, "SET 0 1; SET 0 2; SET 0 3");
+        for (int line = 1; line <= 3; line++) {
+            x.setBreakpoint(line);
+        }
+        Check.due("clearBreakpoint(2)", x.clearBreakpoint(2), true);
+        Run.pauses(x, "cont()", Run.BREAK, 1, 0, 1);
+        Run.pauses(x, "cont()", Run.BREAK, 3, 0, 3);
+    }
+
+    private static void noCodeWhileEditing() {
+        for (Stage stage : Stage.editing()) {
+            for (int line : Look.around(40)) {
+                Check.due("hasCode(" + line + ") when " + stage.name, stage.make().hasCode(line), false);
+            }
+        }
+    }
+
+    private static void noCodeOutside() {
+        for (Stage stage : Stage.compiled()) {
+            LineProgramDbg x = stage.make();
+            int count = countOf(stage);
+            for (int line : new int[] {Integer.MIN_VALUE, -1, 0, count + 1, count + 2, 32, 33, 34, 64, Integer.MAX_VALUE}) {
+                Check.due("hasCode(" + line + ") when " + stage.name, x.hasCode(line), false);
+            }
+        }
+        LineProgramDbg full = Program.ready(1, 64, Program.times(32, "RET"));
+        for (int line : Look.around(40)) {
+            Check.due("hasCode(" + line + ") of a full program", full.hasCode(line), line >= 1 && line <= 32);
+        }
+    }
+
+    private static void codeUnlessIfEnd() {
+        for (Stage stage : Stage.compiled()) {
+            LineProgramDbg x = stage.make();
+            for (int line = 1; line <= countOf(stage); line++) {
+                boolean due = line != 5 && line != 14 && line != 18;
+                Check.due("hasCode(" + line + ") when " + stage.name, x.hasCode(line), due);
+            }
+        }
+        LineProgramDbg x = Program.ready(1, 64, NESTED);
+        for (int line = 1; line <= 14; line++) {
+            Check.due("hasCode(" + line + ")", x.hasCode(line), NESTED_CODE.charAt(line - 1) == '1');
+        }
+    }
+
+    private static void askingForCodeChangesNothing() {
+        for (Stage stage : Stage.all()) {
+            for (int line : new int[] {Integer.MIN_VALUE, -1, 0, 1, 5, 18, 19, 32, 33, Integer.MAX_VALUE}) {
+                boolean due = stage.make().hasCode(line);
+                stage.unchangedBy("hasCode(" + line + ")", x -> x.hasCode(line), due);
+            }
         }
     }
 }

@@ -1,8 +1,19 @@
-/** What the tests share: comparing answers, writing programs down, and looking at a whole object. */
+/** Comparing answers with the ones that are due, under the sentence of the document that asks for them. */
 final class Check {
+    private static int made = 0;
     private static int wrong = 0;
+    private static String asked = "";
 
     private Check() {
+    }
+
+    /** Runs the test of one sentence; a test that compares nothing tells nothing, so it fails. */
+    static void sentence(String words, Runnable test) {
+        int before = made;
+        asked = "\"" + words + "\": ";
+        test.run();
+        due("whether the test compared anything", made > before, true);
+        asked = "";
     }
 
     static void due(String what, long got, long want) {
@@ -14,10 +25,27 @@ final class Check {
     }
 
     static void due(String what, String got, String want) {
+        made++;
         if (!got.equals(want)) {
             wrong++;
-            System.out.println(what + " answered " + got + ", due is " + want);
+            int from = firstDifference(got, want) - 80;
+            System.out.println(asked + what + " answered " + excerpt(got, from) + ", due is " + excerpt(want, from));
         }
+    }
+
+    private static int firstDifference(String one, String other) {
+        int i = 0;
+        while (i < one.length() && i < other.length() && one.charAt(i) == other.charAt(i)) {
+            i++;
+        }
+        return i;
+    }
+
+    /** Long texts are told only around their first difference. */
+    private static String excerpt(String text, int from) {
+        int start = Math.max(0, from);
+        int end = Math.min(text.length(), start + 200);
+        return (start > 0 ? ".." : "") + text.substring(start, end) + (end < text.length() ? ".." : "");
     }
 
     static boolean anyWrong() {
@@ -30,101 +58,5 @@ final class Check {
         if (wrong != 0) {
             System.exit(1);
         }
-    }
-
-    static int[] set(int a, int b) {
-        return new int[] {LineProgramDbg.K_SET, a, b, 0};
-    }
-
-    static int[] op(int a, int b, int c) {
-        return new int[] {LineProgramDbg.K_OP, a, b, c};
-    }
-
-    static int[] when(int a) {
-        return new int[] {LineProgramDbg.K_IF, a, 0, 0};
-    }
-
-    static int[] loop(int a) {
-        return new int[] {LineProgramDbg.K_WHILE, a, 0, 0};
-    }
-
-    static int[] close() {
-        return new int[] {LineProgramDbg.K_END, 0, 0, 0};
-    }
-
-    static int[] proc(int a) {
-        return new int[] {LineProgramDbg.K_PROC, a, 0, 0};
-    }
-
-    static int[] call(int a) {
-        return new int[] {LineProgramDbg.K_CALL, a, 0, 0};
-    }
-
-    static int[] ret() {
-        return new int[] {LineProgramDbg.K_RET, 0, 0, 0};
-    }
-
-    static int add(LineProgramDbg x, int[] line) {
-        return x.addLine(line[0], line[1], line[2], line[3]);
-    }
-
-    /** A program with its lines added, not yet compiled. */
-    static LineProgramDbg edited(int maxDepth, int budget, int[]... lines) {
-        LineProgramDbg x = new LineProgramDbg(maxDepth, budget);
-        for (int i = 0; i < lines.length; i++) {
-            due("addLine of line " + (i + 1), add(x, lines[i]), i + 1);
-        }
-        return x;
-    }
-
-    /** A program compiled and ready. */
-    static LineProgramDbg ready(int maxDepth, int budget, int[]... lines) {
-        LineProgramDbg x = edited(maxDepth, budget, lines);
-        due("compile()", x.compile(), 0);
-        return x;
-    }
-
-    /** Every answer that the questions give, at and around the edges of their arguments. */
-    static String look(LineProgramDbg x) {
-        StringBuilder seen = new StringBuilder();
-        seen.append("state ").append(x.state());
-        seen.append(" line ").append(x.currentLine());
-        seen.append(" depth ").append(x.depth());
-        seen.append(" events ").append(x.eventCount());
-        seen.append(" frames");
-        for (int k : around(10)) {
-            seen.append(' ').append(x.frameLine(k));
-        }
-        seen.append(" variables");
-        for (int v : around(9)) {
-            seen.append(' ').append(x.variable(v));
-        }
-        seen.append(" code ");
-        for (int line : around(35)) {
-            seen.append(x.hasCode(line) ? '1' : '0');
-        }
-        return seen.toString();
-    }
-
-    /** The ends of int, -1, and 0..last. */
-    static int[] around(int last) {
-        int[] all = new int[last + 4];
-        all[0] = Integer.MIN_VALUE;
-        all[1] = -1;
-        for (int i = 0; i <= last; i++) {
-            all[i + 2] = i;
-        }
-        all[last + 3] = Integer.MAX_VALUE;
-        return all;
-    }
-
-    /** Where a run stands: answer, state, line, depth and events, in one row. */
-    static String at(LineProgramDbg x, int answer) {
-        return answer + ": state " + x.state() + " line " + x.currentLine() + " depth " + x.depth()
-                + " events " + x.eventCount();
-    }
-
-    static String row(int answer, int state, int line, int depth, int events) {
-        return answer + ": state " + state + " line " + line + " depth " + depth + " events " + events;
     }
 }

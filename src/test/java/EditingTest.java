@@ -1,254 +1,392 @@
-/** Promises 1, 2 and 3: construction, adding a line, compiling. */
+/** Promises 1, 2 and 3 (construction, adding a line, compiling): a test for each sentence that names a boundary. */
 public final class EditingTest {
-    private static final int[] WILD = {Integer.MIN_VALUE, -1, 8, 99, Integer.MAX_VALUE};
+    private static final int MIN = Integer.MIN_VALUE;
+    private static final int MAX = Integer.MAX_VALUE;
+    private static final int[] NO_KINDS = {MIN, -1, 0, 9, 10, 32, MAX};
+    private static final int[] NO_VARIABLES = {MIN, -1, 8, MAX};
+    private static final int[] NO_PROCEDURES = {MIN, -1, 4, 7, MAX};
+    private static final int[] NUMBERS = {MIN, -1, 0, 7, 8, 99, MAX};
 
     public static void main(String[] args) {
-        startsEmpty();
-        clampsDepth();
-        clampsBudget();
-        numbersLines();
-        refusesKinds();
-        refusesOperands();
-        ignoresUnlistedOperands();
-        takesAnyNumber();
-        refusesTheThirtyThirdLine();
-        refusesLinesAfterCompile();
-        addingChangesNothingElse();
-        compilesOnce();
-        findsTheFirstWrongLine();
-        findsTheOpenBlock();
-        findsTheCallOfNoProcedure();
-        mayBeMendedAfterAFailure();
+        construction();
+        adding();
+        compiling();
         Check.end();
     }
 
-    private static String empty() {
-        return "state 0 line 0 depth 0 events 0 frames" + " 0".repeat(14)
-                + " variables" + " 0".repeat(13) + " code " + "0".repeat(39);
+    private static void construction() {
+        Check.sentence("`LineProgramDbg(maxDepth, budget)` accepts any int values.", EditingTest::acceptsAnyInts);
+        Check.sentence("maxDepth is the greatest call depth, clamped to 1..8: a value below 1 becomes 1, a value above 8"
+                + " becomes 8, others are kept.", EditingTest::clampsTheDepth);
+        Check.sentence("budget is the most events one resuming call reaches, clamped to 1..4096 the same way.",
+                EditingTest::clampsTheBudget);
+        Check.sentence("The object starts in `S_EDITING` with no lines (count 0), no breakpoints and eventCount 0.",
+                EditingTest::startsWithNothing);
+        Check.sentence("At the start `state()` is `S_EDITING`, `eventCount()` is 0, every `variable(v)` is 0,"
+                + " `currentLine()`, `depth()` and every `frameLine(k)` are 0, and every `hasCode(line)` is false.",
+                EditingTest::answersNothingAtTheStart);
     }
 
-    private static void startsEmpty() {
-        int[] wild = {Integer.MIN_VALUE, -1, 0, 1, 8, 9, 4096, 4097, Integer.MAX_VALUE};
-        for (int depth : wild) {
-            for (int budget : wild) {
-                Check.due("a new object " + depth + " " + budget, Check.look(new LineProgramDbg(depth, budget)), empty());
+    private static void adding() {
+        Check.sentence("state is not `S_EDITING`;", EditingTest::addsOnlyWhileEditing);
+        Check.sentence("count == `MAX_LINES`;", EditingTest::addsNoLine33);
+        Check.sentence("kind is not one of `K_SET`..`K_RET`;", EditingTest::addsNoOtherKind);
+        Check.sentence("an operand listed for the kind is outside its range (see Program).",
+                EditingTest::addsNoOtherOperand);
+        Check.sentence("If any condition holds, the call answers 0 and nothing changes.",
+                EditingTest::refusesForSeveralReasons);
+        Check.sentence("Otherwise the line becomes line count + 1 (so count grows by 1), and that line number is the"
+                + " answer.", EditingTest::numbersTheLines);
+        Check.sentence("Operands that the kind does not list are ignored and never cause a refusal;",
+                EditingTest::otherOperandsNeverRefuse);
+        Check.sentence("b of `K_SET` and c of `K_OP` may be any int.", EditingTest::numbersMayBeAny);
+        Check.sentence("Adding a line does not change state, variables, breakpoints or eventCount.",
+                EditingTest::addingChangesNothingElse);
+        Check.sentence("Blocks need not be balanced while lines are added; that is examined by `compile`.",
+                EditingTest::addsUnbalancedLines);
+    }
+
+    private static void compiling() {
+        Check.sentence("If state is not `S_EDITING`, it answers -1 and nothing changes.",
+                EditingTest::compilesOnlyWhileEditing);
+        Check.sentence("Otherwise lines 1..count are considered in order, together with the blocks open at each point.",
+                EditingTest::findsTheFirstOfSeveral);
+        Check.sentence("an END with no open block;", EditingTest::findsTheEndTooMany);
+        Check.sentence("a PROC while some block is open;", EditingTest::findsTheProcInABlock);
+        Check.sentence("a PROC naming a procedure that an earlier PROC line named.", EditingTest::findsTheProcNamedTwice);
+        Check.sentence("If there is no such line but a block is still open at the end, the answer is count + 1.",
+                EditingTest::findsTheOpenBlock);
+        Check.sentence("Otherwise, if some CALL names a procedure that no PROC line names, the answer is the least such"
+                + " CALL line.", EditingTest::findsTheCallOfNone);
+        Check.sentence("In all these cases nothing changes, state stays `S_EDITING`, and lines may still be added.",
+                EditingTest::failingChangesNothing);
+        Check.sentence("Otherwise the answer is 0, and state becomes `S_READY`: all variables 0, eventCount 0, no frames,"
+                + " no breakpoints, no current event.", EditingTest::becomesReady);
+        Check.sentence("A program with no lines compiles with answer 0.", EditingTest::compilesNoLines);
+    }
+
+    private static void acceptsAnyInts() {
+        int[] ints = {MIN, MIN + 1, -1, 0, 1, 2, 8, 9, 4095, 4096, 4097, MAX - 1, MAX};
+        for (int depth : ints) {
+            for (int budget : ints) {
+                LineProgramDbg x = Program.ready(depth, budget, "SET 0 1; CALL 0; RET; PROC 0; END");
+                Run.whole(x, "1 2 4/1 5/1 3");
             }
         }
-        Check.due("count at the start", new LineProgramDbg(1, 1).addLine(5, 0, 0, 0), 1);
     }
 
-    private static void clampsDepth() {
-        int[][] pairs = {{Integer.MIN_VALUE, 1}, {-1, 1}, {0, 1}, {1, 1}, {2, 2}, {5, 5}, {7, 7}, {8, 8}, {9, 8},
-            {Integer.MAX_VALUE, 8}};
+    private static void clampsTheDepth() {
+        int[][] pairs = {{MIN, 1}, {-8, 1}, {-1, 1}, {0, 1}, {1, 1}, {2, 2}, {3, 3}, {4, 4}, {5, 5}, {6, 6}, {7, 7},
+            {8, 8}, {9, 8}, {16, 8}, {4096, 8}, {MAX, 8}};
         for (int[] pair : pairs) {
-            // Procedure 0 calls itself until the depth is used up.
-            LineProgramDbg x = Check.ready(pair[0], 4096, Check.call(0), Check.proc(0), Check.call(0), Check.close());
-            Check.due("cont() to the fault", x.cont(), LineProgramDbg.R_FAULT);
-            Check.due("greatest depth for " + pair[0], x.depth(), pair[1]);
+            LineProgramDbg x = Program.ready(pair[0], 4096, "CALL 0; PROC 0; CALL 0; END");
+            Run.faults(x, "cont()", 3, pair[1], 1 + 2 * pair[1]);
         }
     }
 
-    private static void clampsBudget() {
-        int[][] pairs = {{Integer.MIN_VALUE, 1}, {-1, 1}, {0, 1}, {1, 1}, {2, 2}, {4095, 4095}, {4096, 4096},
-            {4097, 4096}, {Integer.MAX_VALUE, 4096}};
+    private static void clampsTheBudget() {
+        int[][] pairs = {{MIN, 1}, {-4096, 1}, {-1, 1}, {0, 1}, {1, 1}, {2, 2}, {8, 8}, {9, 9}, {255, 255}, {256, 256},
+            {4095, 4095}, {4096, 4096}, {4097, 4096}, {8192, 4096}, {MAX, 4096}};
         for (int[] pair : pairs) {
-            LineProgramDbg x = Check.ready(1, pair[0], Check.set(0, 1), Check.loop(0), Check.close());
-            Check.due("cont() to the limit", x.cont(), LineProgramDbg.R_LIMIT);
-            Check.due("events of one call for " + pair[0], x.eventCount(), pair[1]);
+            LineProgramDbg x = Program.ready(1, pair[0], "SET 0 1; WHILE 0; END");
+            Check.due("cont()", x.cont(), Run.LIMIT);
+            Check.due("events of the first call, budget " + pair[0], x.eventCount(), pair[1]);
+            Check.due("cont()", x.cont(), Run.LIMIT);
+            Check.due("events of two calls, budget " + pair[0], x.eventCount(), 2 * pair[1]);
         }
     }
 
-    private static void numbersLines() {
-        Check.edited(1, 1, Check.set(7, 3), Check.op(7, 7, 1), Check.when(7), Check.loop(7), Check.close(),
-                Check.proc(3), Check.call(3), Check.ret());
+    private static void startsWithNothing() {
+        LineProgramDbg x = new LineProgramDbg(1, 64);
+        Check.due("state()", x.state(), LineProgramDbg.S_EDITING);
+        Check.due("eventCount()", x.eventCount(), 0);
+        Check.due("the number of the first line", Program.add(x, "SET 0 1"), 1);
+        for (int line = 2; line <= 32; line++) {
+            Program.add(x, "OP 0 0 1");
+        }
+        Check.due("compile()", x.compile(), 0);
+        for (int line = 1; line <= 32; line++) {
+            Check.due("clearBreakpoint(" + line + ")", x.clearBreakpoint(line), false);
+        }
+        Run.finishes(x, "cont()", 32);
+        // No line at all: nothing is run.
+        Run.finishes(Program.ready(1, 64, ""), "cont()", 0);
     }
 
-    private static void refusesKinds() {
-        LineProgramDbg x = new LineProgramDbg(1, 1);
-        for (int kind : new int[] {Integer.MIN_VALUE, -1, 0, 9, 10, Integer.MAX_VALUE}) {
-            Check.due("addLine of kind " + kind, x.addLine(kind, 0, 0, 0), 0);
+    private static void answersNothingAtTheStart() {
+        for (int depth : new int[] {MIN, 0, 1, 8, 9, MAX}) {
+            for (int budget : new int[] {MIN, 0, 1, 4096, 4097, MAX}) {
+                String start = Look.now(new LineProgramDbg(depth, budget));
+                Check.due("the questions at the start", start, Look.fresh(LineProgramDbg.S_EDITING, ""));
+            }
         }
-        Check.due("the line after refusals", x.addLine(8, 0, 0, 0), 1);
     }
 
-    private static void refusesOperands() {
-        LineProgramDbg x = new LineProgramDbg(1, 1);
-        for (int v : WILD) {
-            Check.due("SET of variable " + v, x.addLine(1, v, 0, 0), 0);
-            Check.due("OP to variable " + v, x.addLine(2, v, 0, 0), 0);
-            Check.due("OP from variable " + v, x.addLine(2, 0, v, 0), 0);
-            Check.due("IF of variable " + v, x.addLine(3, v, 0, 0), 0);
-            Check.due("WHILE of variable " + v, x.addLine(4, v, 0, 0), 0);
+    private static void refusesLine(Stage stage, int kind, int a, int b, int c) {
+        stage.unchangedBy("addLine(" + kind + ", " + a + ", " + b + ", " + c + ")", x -> x.addLine(kind, a, b, c), 0);
+    }
+
+    private static void addsOnlyWhileEditing() {
+        for (Stage stage : Stage.compiled()) {
+            for (int kind = LineProgramDbg.K_SET; kind <= LineProgramDbg.K_RET; kind++) {
+                refusesLine(stage, kind, 0, 0, 0);
+            }
         }
-        for (int p : new int[] {Integer.MIN_VALUE, -1, 4, 7, 8, Integer.MAX_VALUE}) {
-            Check.due("PROC of procedure " + p, x.addLine(6, p, 0, 0), 0);
-            Check.due("CALL of procedure " + p, x.addLine(7, p, 0, 0), 0);
+    }
+
+    private static void addsNoLine33() {
+        for (Stage stage : Stage.editing()) {
+            if (stage.name.contains("full")) {
+                for (int kind = LineProgramDbg.K_SET; kind <= LineProgramDbg.K_RET; kind++) {
+                    refusesLine(stage, kind, 0, 0, 0);
+                }
+            }
         }
-        Check.due("the line after refusals", x.addLine(8, 0, 0, 0), 1);
-        int line = 1;
+        LineProgramDbg x = Program.edited(1, 64, Program.times(31, "RET"));
+        Check.due("addLine of line 32", Program.add(x, "RET"), 32);
+        Check.due("addLine of line 33", Program.add(x, "RET"), 0);
+    }
+
+    private static void addsNoOtherKind() {
+        for (Stage stage : Stage.editing()) {
+            for (int kind : NO_KINDS) {
+                refusesLine(stage, kind, 0, 0, 0);
+            }
+        }
+        for (int kind = LineProgramDbg.K_SET; kind <= LineProgramDbg.K_RET; kind++) {
+            Check.due("addLine of kind " + kind, new LineProgramDbg(1, 64).addLine(kind, 0, 0, 0), 1);
+        }
+    }
+
+    private static void addsNoOtherOperand() {
+        for (Stage stage : Stage.editing()) {
+            for (int v : NO_VARIABLES) {
+                refusesLine(stage, LineProgramDbg.K_SET, v, 0, 0);
+                refusesLine(stage, LineProgramDbg.K_OP, v, 0, 0);
+                refusesLine(stage, LineProgramDbg.K_OP, 0, v, 0);
+                refusesLine(stage, LineProgramDbg.K_IF, v, 0, 0);
+                refusesLine(stage, LineProgramDbg.K_WHILE, v, 0, 0);
+            }
+            for (int p : NO_PROCEDURES) {
+                refusesLine(stage, LineProgramDbg.K_PROC, p, 0, 0);
+                refusesLine(stage, LineProgramDbg.K_CALL, p, 0, 0);
+            }
+        }
+        takesEveryOperandInRange();
+    }
+
+    private static void takesEveryOperandInRange() {
         for (int v = 0; v < 8; v++) {
-            line++;
-            Check.due("OP of variable " + v, x.addLine(2, v, 7 - v, 0), line);
+            Program.edited(1, 64, "SET " + v + " 0; OP " + v + " 0 0; OP 0 " + v + " 0; IF " + v + "; WHILE " + v);
         }
         for (int p = 0; p < 4; p++) {
-            line++;
-            Check.due("CALL of procedure " + p, x.addLine(7, p, 0, 0), line);
-            line++;
-            Check.due("PROC of procedure " + p, x.addLine(6, p, 0, 0), line);
+            Program.edited(1, 64, "PROC " + p + "; CALL " + p);
         }
     }
 
-    private static void ignoresUnlistedOperands() {
-        for (int w : WILD) {
-            LineProgramDbg x = new LineProgramDbg(1, 4096);
-            Check.due("SET", x.addLine(1, 0, 5, w), 1);
-            Check.due("IF", x.addLine(3, 0, w, w), 2);
-            Check.due("WHILE", x.addLine(4, 1, w, w), 3);
-            Check.due("END", x.addLine(5, w, w, w), 4);
-            Check.due("END", x.addLine(5, w, w, w), 5);
-            Check.due("CALL", x.addLine(7, 0, w, w), 6);
-            Check.due("RET", x.addLine(8, w, w, w), 7);
-            Check.due("PROC", x.addLine(6, 0, w, w), 8);
-            Check.due("END", x.addLine(5, w, w, w), 9);
-            Check.due("compile()", x.compile(), 0);
-            Check.due("the run", Check.at(x, x.cont()), Check.row(4, 3, 0, 0, 7));
-            Check.due("the set variable", x.variable(0), 5);
+    private static void refusesForSeveralReasons() {
+        for (Stage stage : Stage.all()) {
+            boolean mayAdd = stage.state == LineProgramDbg.S_EDITING && !stage.name.contains("full");
+            for (int kind : new int[] {MIN, 0, 9, MAX}) {
+                refusesLine(stage, kind, -1, 8, 0);
+                refusesLine(stage, kind, MIN, MAX, MIN);
+            }
+            refusesLine(stage, LineProgramDbg.K_OP, -1, 8, 0);
+            refusesLine(stage, LineProgramDbg.K_CALL, 4, 0, 0);
+            if (!mayAdd) {
+                refusesLine(stage, LineProgramDbg.K_RET, 0, 0, 0);
+                refusesLine(stage, LineProgramDbg.K_SET, 0, 0, 0);
+            }
         }
     }
 
-    private static void takesAnyNumber() {
-        for (int b : new int[] {Integer.MIN_VALUE, -1, 0, 1, 8, Integer.MAX_VALUE}) {
-            LineProgramDbg x = Check.ready(1, 9, Check.set(3, b), Check.op(4, 3, b));
-            x.cont();
-            Check.due("SET to " + b, x.variable(3), b);
-            Check.due("OP with " + b, x.variable(4), b + b);
-        }
-    }
-
-    private static void refusesTheThirtyThirdLine() {
+    private static void numbersTheLines() {
         LineProgramDbg x = new LineProgramDbg(1, 64);
+        String[] kinds = {"SET 7 3", "OP 7 7 1", "IF 7", "WHILE 7", "END", "PROC 3", "CALL 3", "RET"};
         for (int line = 1; line <= 32; line++) {
-            Check.due("addLine of line " + line, x.addLine(2, 0, 0, 1), line);
+            // A refused line takes no number.
+            Check.due("a refused addLine", x.addLine(9, 0, 0, 0), 0);
+            Check.due("a refused addLine", x.addLine(LineProgramDbg.K_SET, 8, 0, 0), 0);
+            Check.due("addLine of line " + line, Program.add(x, kinds[line % 8]), line);
         }
-        for (int kind = 0; kind <= 9; kind++) {
-            Check.due("addLine past the last, kind " + kind, x.addLine(kind, 0, 0, 0), 0);
-        }
-        Check.due("compile() of a full program", x.compile(), 0);
-        Check.due("a full run", Check.at(x, x.cont()), Check.row(4, 3, 0, 0, 32));
-        Check.due("every line ran", x.variable(0), 32);
     }
 
-    private static void refusesLinesAfterCompile() {
-        LineProgramDbg x = Check.ready(1, 64, Check.set(0, 1), Check.call(0), Check.proc(0), Check.call(0), Check.close());
-        refusesLine(x, "S_READY");
-        x.stepInto();
-        refusesLine(x, "S_PAUSED");
-        x.cont();
-        Check.due("state()", x.state(), LineProgramDbg.S_FAULTED);
-        refusesLine(x, "S_FAULTED");
-        LineProgramDbg y = Check.ready(1, 64);
-        y.cont();
-        Check.due("state()", y.state(), LineProgramDbg.S_FINISHED);
-        refusesLine(y, "S_FINISHED");
+    private static void otherOperandsNeverRefuse() {
+        for (int w : NUMBERS) {
+            taken(LineProgramDbg.K_SET, 7, 0, w);
+            taken(LineProgramDbg.K_IF, 7, w, w);
+            taken(LineProgramDbg.K_WHILE, 7, w, w);
+            taken(LineProgramDbg.K_END, w, w, w);
+            taken(LineProgramDbg.K_PROC, 3, w, w);
+            taken(LineProgramDbg.K_CALL, 3, w, w);
+            taken(LineProgramDbg.K_RET, w, w, w);
+        }
     }
 
-    private static void refusesLine(LineProgramDbg x, String state) {
-        String before = Check.look(x);
-        Check.due("addLine in " + state, x.addLine(1, 0, 0, 0), 0);
-        Check.due("what stands after it", Check.look(x), before);
+    private static void numbersMayBeAny() {
+        for (int w : NUMBERS) {
+            taken(LineProgramDbg.K_SET, 0, w, 0);
+            taken(LineProgramDbg.K_OP, 0, 0, w);
+            LineProgramDbg x = Program.ready(1, 64, "SET 3 " + w + "; OP 4 5 " + w);
+            Run.finishes(x, "cont()", 2);
+            Check.due("V3 set to " + w, x.variable(3), w);
+            Check.due("V4 = V5 + " + w, x.variable(4), w);
+        }
+    }
+
+    private static void taken(int kind, int a, int b, int c) {
+        LineProgramDbg x = new LineProgramDbg(1, 64);
+        Check.due("addLine(" + kind + ", " + a + ", " + b + ", " + c + ")", x.addLine(kind, a, b, c), 1);
     }
 
     private static void addingChangesNothingElse() {
-        LineProgramDbg x = new LineProgramDbg(1, 1);
-        String before = Check.look(x);
-        for (int i = 0; i < 40; i++) {
-            x.addLine(i % 11, i % 9, i % 10, i);
-            Check.due("what stands after addLine", Check.look(x), before);
+        LineProgramDbg x = new LineProgramDbg(1, 64);
+        String before = Look.now(x);
+        String[] kinds = {"SET 1 3", "OP 7 7 1", "IF 7", "WHILE 7", "END", "END", "CALL 3", "RET"};
+        for (int line = 1; line <= 32; line++) {
+            Check.due("addLine", Program.add(x, kinds[(line - 1) % 8]), line);
+            Check.due("the questions after it", Look.now(x), before);
+        }
+        Check.due("addLine of PROC in a full program", Program.add(x, "PROC 3"), 0);
+        LineProgramDbg y = Program.ready(1, 64, Program.times(32, "OP 0 0 1"));
+        Run.finishes(y, "cont()", 32);
+    }
+
+    private static void addsUnbalancedLines() {
+        Program.edited(1, 64, "END; END; IF 0; PROC 0; PROC 0; WHILE 0; CALL 3; PROC 1; END");
+        Program.edited(1, 64, Program.times(32, "END"));
+        Program.edited(1, 64, Program.times(32, "WHILE 0"));
+        Program.edited(1, 64, Program.times(32, "PROC 0"));
+        Check.due("compile() of an END alone", Program.edited(1, 64, "END").compile(), 1);
+    }
+
+    private static void compilesOnlyWhileEditing() {
+        for (Stage stage : Stage.compiled()) {
+            stage.unchangedBy("compile()", x -> x.compile(), -1);
         }
     }
 
-    private static void compilesOnce() {
-        LineProgramDbg x = new LineProgramDbg(1, 64);
-        Check.due("compile() of no lines", x.compile(), 0);
-        Check.due("state()", x.state(), LineProgramDbg.S_READY);
-        Check.due("a second compile()", x.compile(), -1);
-        LineProgramDbg y = Check.ready(1, 64, Check.set(0, 5), Check.call(0), Check.proc(0), Check.call(0), Check.close());
-        Check.due("what stands", Check.look(y), "state 1 line 0 depth 0 events 0 frames" + " 0".repeat(14)
-                + " variables" + " 0".repeat(13) + " code 000" + "1".repeat(5) + "0".repeat(31));
-        Check.due("compile() in S_READY", y.compile(), -1);
-        y.setBreakpoint(2);
-        y.cont();
-        String paused = Check.look(y);
-        Check.due("compile() in S_PAUSED", y.compile(), -1);
-        Check.due("what stands", Check.look(y), paused);
-        Check.due("the breakpoint after it", y.clearBreakpoint(2), true);
-        y.cont();
-        String faulted = Check.look(y);
-        Check.due("compile() in S_FAULTED", y.compile(), -1);
-        Check.due("what stands", Check.look(y), faulted);
-        x.cont();
-        Check.due("compile() in S_FINISHED", x.compile(), -1);
-        Check.due("state()", x.state(), LineProgramDbg.S_FINISHED);
+    private static void wrongAt(int answer, String text) {
+        Check.due("compile() of " + text, Program.edited(4, 64, text).compile(), answer);
     }
 
-    private static void refusesCompile(String what, int answer, int[]... lines) {
-        LineProgramDbg x = Check.edited(4, 64, lines);
-        Check.due(what, x.compile(), answer);
-        Check.due(what + ", what stands", Check.look(x), empty());
-        Check.due(what + ", again", x.compile(), answer);
-        Check.due(what + ", lines kept", Check.add(x, Check.ret()), lines.length + 1);
+    private static void findsTheFirstOfSeveral() {
+        wrongAt(3, "PROC 2; END; PROC 2; END; END");
+        wrongAt(3, "PROC 2; END; END; PROC 2; END");
+        wrongAt(2, "IF 0; PROC 2; END; END; END");
+        wrongAt(3, "IF 0; END; END; IF 0; PROC 0");
+        wrongAt(1, "END; WHILE 0");
+        wrongAt(2, "CALL 0; END");
+        wrongAt(4, "PROC 0; CALL 3; END; PROC 0; END; END");
+        wrongAt(5, "WHILE 0; IF 0; END; END; END; WHILE 0");
     }
 
-    private static void findsTheFirstWrongLine() {
-        refusesCompile("END alone", 1, Check.close());
-        refusesCompile("END too many", 3, Check.when(0), Check.close(), Check.close(), Check.close());
-        refusesCompile("PROC in IF", 2, Check.when(0), Check.proc(0), Check.close(), Check.close());
-        refusesCompile("PROC in WHILE", 2, Check.loop(0), Check.proc(0), Check.close(), Check.close());
-        refusesCompile("PROC in PROC", 3, Check.ret(), Check.proc(1), Check.proc(0), Check.close(), Check.close());
-        refusesCompile("PROC twice", 3, Check.proc(2), Check.close(), Check.proc(2), Check.close());
-        refusesCompile("PROC twice, others between", 5, Check.proc(2), Check.close(), Check.proc(0), Check.close(),
-                Check.proc(2), Check.close());
-        refusesCompile("PROC twice before END too many", 3, Check.proc(2), Check.close(), Check.proc(2),
-                Check.close(), Check.close());
-        refusesCompile("END too many before PROC twice", 3, Check.proc(2), Check.close(), Check.close(),
-                Check.proc(2), Check.close());
-        refusesCompile("a wrong line before an unknown CALL", 2, Check.call(0), Check.close());
-        refusesCompile("a wrong line before an open block", 1, Check.close(), Check.loop(0));
+    private static void findsTheEndTooMany() {
+        wrongAt(1, "END");
+        wrongAt(3, "IF 0; END; END");
+        wrongAt(3, "WHILE 0; END; END");
+        wrongAt(3, "PROC 0; END; END");
+        wrongAt(4, "SET 0 0; IF 0; END; END; IF 0; END");
+        wrongAt(32, Program.times(31, "RET") + "; END");
+        Check.due("compile() of ENDs that all match", Program.edited(1, 64, Program.times(16, "IF 0") + "; "
+                + Program.times(16, "END")).compile(), 0);
+    }
+
+    private static void findsTheProcInABlock() {
+        wrongAt(2, "IF 0; PROC 0; END; END");
+        wrongAt(2, "WHILE 0; PROC 0; END; END");
+        wrongAt(2, "PROC 0; PROC 1; END; END");
+        wrongAt(4, "IF 0; IF 0; END; PROC 0; END; END");
+        wrongAt(32, Program.times(30, "RET") + "; IF 0; PROC 0");
+        Check.due("compile() of PROCs after blocks", Program.edited(1, 64, "IF 0; END; PROC 0; END; WHILE 0; END; PROC 1;"
+                + " END; PROC 2; END").compile(), 0);
+    }
+
+    private static void findsTheProcNamedTwice() {
+        for (int p = 0; p < 4; p++) {
+            wrongAt(3, "PROC " + p + "; END; PROC " + p + "; END");
+            wrongAt(5, "PROC " + p + "; END; PROC " + (p + 1) % 4 + "; END; PROC " + p + "; END");
+        }
+        wrongAt(31, "PROC 3; END; " + Program.times(28, "RET") + "; PROC 3; END");
+        Check.due("compile() of each PROC once", Program.edited(1, 64, "PROC 3; END; PROC 0; END; PROC 2; END; PROC 1;"
+                + " END").compile(), 0);
     }
 
     private static void findsTheOpenBlock() {
-        refusesCompile("IF open", 2, Check.when(0));
-        refusesCompile("WHILE open", 3, Check.loop(0), Check.ret());
-        refusesCompile("PROC open", 2, Check.proc(0));
-        refusesCompile("the outer one open", 4, Check.loop(0), Check.when(0), Check.close());
-        refusesCompile("open before an unknown CALL", 3, Check.call(0), Check.when(0));
-        int[][] full = new int[32][];
-        for (int i = 0; i < 32; i++) {
-            full[i] = Check.when(i % 8);
+        wrongAt(2, "IF 0");
+        wrongAt(2, "WHILE 0");
+        wrongAt(2, "PROC 0");
+        wrongAt(4, "WHILE 0; IF 0; END");
+        wrongAt(3, "CALL 0; WHILE 0");
+        wrongAt(4, "PROC 0; CALL 1; RET");
+        wrongAt(33, Program.times(31, "RET") + "; IF 0");
+        wrongAt(33, "PROC 0; " + Program.times(31, "RET"));
+        wrongAt(33, Program.times(32, "WHILE 0"));
+        wrongAt(33, Program.times(17, "IF 0") + "; " + Program.times(15, "END"));
+    }
+
+    private static void findsTheCallOfNone() {
+        for (int p = 0; p < 4; p++) {
+            wrongAt(1, "CALL " + p);
+            wrongAt(3, "PROC " + (p + 1) % 4 + "; END; CALL " + p);
         }
-        LineProgramDbg x = Check.edited(1, 1, full);
-        Check.due("a full program of open blocks", x.compile(), 33);
+        wrongAt(4, "CALL 1; PROC 1; END; CALL 2; CALL 0");
+        wrongAt(2, "PROC 0; CALL 3; END; CALL 2");
+        wrongAt(32, Program.times(31, "RET") + "; CALL 0");
+        // A PROC behind the CALL, before it and around it all name the procedure.
+        for (int p = 0; p < 4; p++) {
+            Program.ready(1, 64, "CALL " + p + "; PROC " + p + "; CALL " + p + "; END; CALL " + p);
+        }
     }
 
-    private static void findsTheCallOfNoProcedure() {
-        refusesCompile("CALL of none", 1, Check.call(0));
-        refusesCompile("the least CALL of none", 4, Check.call(1), Check.proc(1), Check.close(), Check.call(2),
-                Check.call(0));
-        refusesCompile("CALL of none in a PROC", 2, Check.proc(0), Check.call(3), Check.close(), Check.call(2));
-        Check.ready(1, 1, Check.call(3), Check.proc(3), Check.call(3), Check.close(), Check.call(3));
+    private static void failingChangesNothing() {
+        String[] texts = {"END", "IF 0; PROC 0", "PROC 0; END; PROC 0; END", "SET 1 1; WHILE 0", "PROC 0; END; CALL 0; CALL 1"};
+        int[] answers = {1, 2, 3, 3, 4};
+        for (int i = 0; i < texts.length; i++) {
+            LineProgramDbg x = Program.edited(2, 64, texts[i]);
+            LineProgramDbg untouched = Program.edited(2, 64, texts[i]);
+            for (int times = 0; times < 3; times++) {
+                Check.due("compile() of " + texts[i], x.compile(), answers[i]);
+                Check.due("the questions after it", Look.now(x), Look.fresh(LineProgramDbg.S_EDITING, ""));
+            }
+            int count = Program.lines(texts[i]).length;
+            Check.due("addLine after it", Program.add(x, "SET 2 2"), count + 1);
+            Check.due("addLine without it", Program.add(untouched, "SET 2 2"), count + 1);
+            Check.due("what comes later", Look.later(x), Look.later(untouched));
+        }
+        mendsAndRuns();
     }
 
-    private static void mayBeMendedAfterAFailure() {
-        LineProgramDbg x = Check.edited(2, 64, Check.call(0), Check.proc(0));
+    private static void mendsAndRuns() {
+        LineProgramDbg x = Program.edited(2, 64, "CALL 0; PROC 0");
         Check.due("compile() with PROC open", x.compile(), 3);
-        Check.due("addLine of OP", Check.add(x, Check.op(1, 1, 2)), 3);
-        Check.due("addLine of END", Check.add(x, Check.close()), 4);
-        Check.due("addLine of CALL", Check.add(x, Check.call(1)), 5);
+        Check.due("addLine", Program.add(x, "OP 1 1 2"), 3);
+        Check.due("addLine", Program.add(x, "END"), 4);
+        Check.due("addLine", Program.add(x, "CALL 1"), 5);
         Check.due("compile() with a CALL of none", x.compile(), 5);
-        Check.due("addLine of PROC", Check.add(x, Check.proc(1)), 6);
-        Check.due("addLine of END", Check.add(x, Check.close()), 7);
+        Check.due("addLine", Program.add(x, "PROC 1"), 6);
+        Check.due("addLine", Program.add(x, "END"), 7);
         Check.due("compile() of the mended program", x.compile(), 0);
-        Check.due("its run", Check.at(x, x.cont()), Check.row(4, 3, 0, 0, 7));
-        Check.due("its variable", x.variable(1), 2);
+        Run.whole(x, "1 2/1 3/1 4/1 5 6/1 7/1");
+    }
+
+    private static void becomesReady() {
+        LineProgramDbg x = Program.ready(1, 64, Stage.TEXT);
+        Check.due("the questions after compile()", Look.now(x), Look.fresh(LineProgramDbg.S_READY, "111101111111101110"));
+        for (int line = 1; line <= Stage.COUNT; line++) {
+            Check.due("clearBreakpoint(" + line + ")", x.clearBreakpoint(line), false);
+        }
+        // What was asked for while editing has left no breakpoint.
+        LineProgramDbg y = Program.edited(1, 64, "SET 0 1; SET 0 2");
+        Check.due("setBreakpoint(2) while editing", y.setBreakpoint(2), 0);
+        Check.due("compile()", y.compile(), 0);
+        Run.finishes(y, "cont()", 2);
+    }
+
+    private static void compilesNoLines() {
+        LineProgramDbg x = new LineProgramDbg(1, 64);
+        Check.due("compile()", x.compile(), 0);
+        Check.due("the questions after it", Look.now(x), Look.fresh(LineProgramDbg.S_READY, ""));
+        Run.finishes(x, "cont()", 0);
     }
 }

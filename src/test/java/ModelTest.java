@@ -104,13 +104,13 @@ public final class ModelTest {
         Check.due(name + ": currentLine()", x.currentLine(), m.currentLine());
         Check.due(name + ": depth()", x.depth(), m.depth());
         Check.due(name + ": eventCount()", x.eventCount(), m.eventCount());
-        for (int k : Check.around(10)) {
+        for (int k : Look.around(10)) {
             Check.due(name + ": frameLine(" + k + ")", x.frameLine(k), m.frameLine(k));
         }
-        for (int v : Check.around(9)) {
+        for (int v : Look.around(9)) {
             Check.due(name + ": variable(" + v + ")", x.variable(v), m.variable(v));
         }
-        for (int line : Check.around(34)) {
+        for (int line : Look.around(34)) {
             Check.due(name + ": hasCode(" + line + ")", x.hasCode(line), m.hasCode(line));
         }
         if (m.state() == 2 || m.state() == 4) {

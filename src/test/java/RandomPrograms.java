@@ -38,10 +38,17 @@ final class RandomPrograms {
         return lines.toArray(new int[0][]);
     }
 
+    private static int[] line(int kind, int... operands) {
+        int[] line = new int[4];
+        line[0] = kind;
+        System.arraycopy(operands, 0, line, 1, operands.length);
+        return line;
+    }
+
     private void procedure(int p, int procedures) {
-        lines.add(Check.proc(p));
+        lines.add(line(LineProgramDbg.K_PROC, p));
         body(1 + dice.roll(5), procedures, 0);
-        lines.add(Check.close());
+        lines.add(line(LineProgramDbg.K_END, 0));
     }
 
     private void body(int size, int procedures, int nested) {
@@ -50,26 +57,26 @@ final class RandomPrograms {
             switch (dice.roll(9)) {
                 case 0:
                 case 1:
-                    lines.add(Check.set(dice.roll(4), dice.of(0, 1, 2, 3, -1, Integer.MAX_VALUE)));
+                    lines.add(line(LineProgramDbg.K_SET, dice.roll(4), dice.of(0, 1, 2, 3, -1, Integer.MAX_VALUE)));
                     break;
                 case 2:
                 case 3:
-                    lines.add(Check.op(dice.roll(4), dice.roll(4), dice.of(-1, 1, 0, 2, Integer.MIN_VALUE)));
+                    lines.add(line(LineProgramDbg.K_OP, dice.roll(4), dice.roll(4), dice.of(-1, 1, 0, 2, Integer.MIN_VALUE)));
                     break;
                 case 4:
-                    block(Check.when(v), procedures, nested);
+                    block(line(LineProgramDbg.K_IF, v), procedures, nested);
                     break;
                 case 5:
-                    block(Check.loop(v), procedures, nested);
+                    block(line(LineProgramDbg.K_WHILE, v), procedures, nested);
                     break;
                 case 6:
                     if (dice.roll(4) == 0) {
-                        lines.add(Check.ret());
+                        lines.add(line(LineProgramDbg.K_RET, 0));
                     }
                     break;
                 default:
                     if (procedures > 0) {
-                        lines.add(Check.call(dice.roll(procedures)));
+                        lines.add(line(LineProgramDbg.K_CALL, dice.roll(procedures)));
                     }
             }
         }
@@ -81,8 +88,8 @@ final class RandomPrograms {
             body(dice.roll(3), procedures, nested + 1);
         }
         if (opening[0] == LineProgramDbg.K_WHILE && dice.roll(4) != 0) {
-            lines.add(Check.op(opening[1], opening[1], -1));
+            lines.add(line(LineProgramDbg.K_OP, opening[1], opening[1], -1));
         }
-        lines.add(Check.close());
+        lines.add(line(LineProgramDbg.K_END, 0));
     }
 }

@@ -36,13 +36,13 @@ public final class StepOverLawTest {
             if (answer != LineProgramDbg.R_LIMIT) {
                 String name = "program " + n + " after " + steps + " steps";
                 Check.due(name + ": stepOver()", answer, followBySteps(into, breaks));
-                Check.due(name + ": what stands", Check.look(over), Check.look(into));
+                Check.due(name + ": what stands", Look.now(over), Look.now(into));
             }
         }
     }
 
     private static LineProgramDbg pausedAfter(int steps, int depth, int budget, int[][] lines, boolean[] breaks) {
-        LineProgramDbg x = Check.ready(depth, budget, lines);
+        LineProgramDbg x = Program.ready(depth, budget, lines);
         for (int line = 1; line < breaks.length; line++) {
             breaks[line] = breaks[line] && x.hasCode(line);
             if (breaks[line]) {
