@@ -53,14 +53,10 @@ public final class BreakpointTest {
         }
     }
 
-    private static int countOf(Stage stage) {
-        return stage.name.contains("no lines") ? 0 : Stage.COUNT;
-    }
-
     private static void setsNoneOutside() {
         for (Stage stage : Stage.compiled()) {
-            int count = countOf(stage);
-            for (int line : new int[] {Integer.MIN_VALUE, -1, 0, count + 1, count + 2, 32, 33, 34, Integer.MAX_VALUE}) {
+            int count = stage.count();
+            for (int line : new int[] {Integer.MIN_VALUE, -1, 0, count + 1, count + 2, 33, 34, Integer.MAX_VALUE}) {
                 stage.unchangedBy("setBreakpoint(" + line + ")", x -> x.setBreakpoint(line), 0);
             }
         }
@@ -73,7 +69,7 @@ public final class BreakpointTest {
 
     private static void setsNoneWhereNoCodeFollows() {
         for (Stage stage : Stage.compiled()) {
-            if (countOf(stage) > 0) {
+            if (stage.isText()) {
                 stage.unchangedBy("setBreakpoint(18)", x -> x.setBreakpoint(18), 0);
             }
         }
@@ -137,7 +133,7 @@ public final class BreakpointTest {
 
     private static void setsInEveryOtherState() {
         for (Stage stage : Stage.compiled()) {
-            if (countOf(stage) > 0) {
+            if (stage.isText()) {
                 LineProgramDbg x = stage.make();
                 String before = Look.now(x);
                 for (int line = 1; line <= 17; line++) {
@@ -172,8 +168,8 @@ public final class BreakpointTest {
 
     private static void clearsNoneOutside() {
         for (Stage stage : Stage.compiled()) {
-            int count = countOf(stage);
-            for (int line : new int[] {Integer.MIN_VALUE, -1, 0, count + 1, count + 2, 32, 33, 34, Integer.MAX_VALUE}) {
+            int count = stage.count();
+            for (int line : new int[] {Integer.MIN_VALUE, -1, 0, count + 1, count + 2, 33, 34, Integer.MAX_VALUE}) {
                 stage.unchangedBy("clearBreakpoint(" + line + ")", x -> x.clearBreakpoint(line), false);
             }
         }
@@ -204,7 +200,7 @@ public final class BreakpointTest {
 
     private static void clears() {
         for (Stage stage : Stage.compiled()) {
-            if (countOf(stage) > 0) {
+            if (stage.isText()) {
                 LineProgramDbg x = stage.make();
                 Check.due("setBreakpoint(9) when " + stage.name, x.setBreakpoint(9), 9);
                 Check.due("clearBreakpoint(9) when " + stage.name, x.clearBreakpoint(9), true);
@@ -219,7 +215,7 @@ public final class BreakpointTest {
 
     private static void clearingChangesNothingElse() {
         for (Stage stage : Stage.compiled()) {
-            if (countOf(stage) > 0) {
+            if (stage.isText()) {
                 // One set and cleared again leaves all as it was, the other breakpoints too.
                 stage.unchangedBy("setBreakpoint(15) and clearBreakpoint(15)",
                         x -> x.setBreakpoint(15) == 15 && x.clearBreakpoint(15), true);
@@ -250,8 +246,8 @@ public final class BreakpointTest {
     private static void noCodeOutside() {
         for (Stage stage : Stage.compiled()) {
             LineProgramDbg x = stage.make();
-            int count = countOf(stage);
-            for (int line : new int[] {Integer.MIN_VALUE, -1, 0, count + 1, count + 2, 32, 33, 34, 64, Integer.MAX_VALUE}) {
+            int count = stage.count();
+            for (int line : new int[] {Integer.MIN_VALUE, -1, 0, count + 1, count + 2, 33, 34, 64, Integer.MAX_VALUE}) {
                 Check.due("hasCode(" + line + ") when " + stage.name, x.hasCode(line), false);
             }
         }
@@ -264,8 +260,8 @@ public final class BreakpointTest {
     private static void codeUnlessIfEnd() {
         for (Stage stage : Stage.compiled()) {
             LineProgramDbg x = stage.make();
-            for (int line = 1; line <= countOf(stage); line++) {
-                boolean due = line != 5 && line != 14 && line != 18;
+            for (int line = 1; line <= stage.count(); line++) {
+                boolean due = stage.code.charAt(line - 1) == '1';
                 Check.due("hasCode(" + line + ") when " + stage.name, x.hasCode(line), due);
             }
         }
@@ -278,9 +274,17 @@ public final class BreakpointTest {
     private static void askingForCodeChangesNothing() {
         for (Stage stage : Stage.all()) {
             for (int line : new int[] {Integer.MIN_VALUE, -1, 0, 1, 5, 18, 19, 32, 33, Integer.MAX_VALUE}) {
-                boolean due = stage.make().hasCode(line);
-                stage.unchangedBy("hasCode(" + line + ")", x -> x.hasCode(line), due);
+                stage.unchangedByQuestion("hasCode(" + line + ")", x -> x.hasCode(line));
             }
+            stage.unchangedByQuestion("every hasCode(line)", BreakpointTest::codeOfEveryLine);
         }
+    }
+
+    private static String codeOfEveryLine(LineProgramDbg x) {
+        StringBuilder seen = new StringBuilder();
+        for (int line : Look.around(34)) {
+            seen.append(x.hasCode(line) ? '1' : '0');
+        }
+        return seen.toString();
     }
 }

@@ -43,7 +43,7 @@ public final class CommandsTest {
 
     private static void steppingOver() {
         Check.sentence("`stepOver()` resumes with condition d < d0, or (d == d0 and L != L0), as described under Resuming.",
-                () -> refusesOutside("stepOver()"));
+                CommandsTest::overResumes);
         Check.sentence("step-over stops at the first event reached that is at a shallower depth (on any line, even L0),",
                 CommandsTest::overStopsShallowerOnAnyLine);
         Check.sentence("or at the same depth on a line other than L0,", CommandsTest::overStopsOnAnotherLine);
@@ -62,8 +62,6 @@ public final class CommandsTest {
     private static void steppingOut() {
         Check.sentence("`stepOut()` resumes with condition d < d0, as described under Resuming.",
                 CommandsTest::outStopsShallowerAlone);
-        Check.sentence("Unless state is `S_READY` or `S_PAUSED`, the call answers `R_REFUSED` and changes nothing.",
-                () -> refusesOutside("stepOut()"));
         Check.sentence("From `S_READY`, or when paused at depth 0, the condition can never hold, so the call ends only by"
                 + " breakpoint, budget, finish or fault.", CommandsTest::outOfMainEndsByOtherReasons);
     }
@@ -74,20 +72,16 @@ public final class CommandsTest {
         }
     }
 
-    private static String code(Stage stage) {
-        return stage.name.contains("no lines") ? "" : "111101111111101110";
-    }
-
     private static void restartsFromEveryOtherState() {
         for (Stage stage : Stage.compiled()) {
             LineProgramDbg x = stage.make();
             x.restart();
             Check.due("the questions after restart() when " + stage.name, Look.now(x),
-                    Look.fresh(LineProgramDbg.S_READY, code(stage)));
+                    Look.fresh(LineProgramDbg.S_READY, stage.code));
             // Twice is as good as once.
             x.restart();
             Check.due("the questions after two of them when " + stage.name, Look.now(x),
-                    Look.fresh(LineProgramDbg.S_READY, code(stage)));
+                    Look.fresh(LineProgramDbg.S_READY, stage.code));
         }
         // The run after it begins with no frame and with variables of 0.
         LineProgramDbg x = Program.ready(2, 64, "OP 0 0 1; CALL 0; RET; PROC 0; CALL 1; END; PROC 1; END");
@@ -189,6 +183,14 @@ public final class CommandsTest {
             int answer = x.stepInto();
             Check.due("events of stepInto() when " + stage.name, x.eventCount(), answer == Run.STEP ? before + 1 : before);
         }
+    }
+
+    private static void overResumes() {
+        refusesOutside("stepOver()");
+        LineProgramDbg x = Program.ready(2, 64, CALLS);
+        Run.pauses(x, "stepOver()", Run.STEP, 1, 0, 1);
+        Run.pauses(x, "stepOver()", Run.STEP, 2, 0, 10);
+        Run.finishes(x, "stepOver()", 10);
     }
 
     private static void overStopsShallowerOnAnyLine() {
@@ -306,6 +308,7 @@ public final class CommandsTest {
     }
 
     private static void outStopsShallowerAlone() {
+        refusesOutside("stepOut()");
         LineProgramDbg x = Program.ready(2, 64, CALLS);
         Run.steps(x, "1 3/1");
         // Past events at the same depth and deeper.

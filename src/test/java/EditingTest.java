@@ -136,7 +136,7 @@ public final class EditingTest {
 
     private static void addsNoLine33() {
         for (Stage stage : Stage.editing()) {
-            if (stage.name.contains("full")) {
+            if (stage.count() == LineProgramDbg.MAX_LINES) {
                 for (int kind = LineProgramDbg.K_SET; kind <= LineProgramDbg.K_RET; kind++) {
                     refusesLine(stage, kind, 0, 0, 0);
                 }
@@ -186,7 +186,7 @@ public final class EditingTest {
 
     private static void refusesForSeveralReasons() {
         for (Stage stage : Stage.all()) {
-            boolean mayAdd = stage.state == LineProgramDbg.S_EDITING && !stage.name.contains("full");
+            boolean mayAdd = stage.state == LineProgramDbg.S_EDITING && stage.count() < LineProgramDbg.MAX_LINES;
             for (int kind : new int[] {MIN, 0, 9, MAX}) {
                 refusesLine(stage, kind, -1, 8, 0);
                 refusesLine(stage, kind, MIN, MAX, MIN);
@@ -266,8 +266,12 @@ public final class EditingTest {
         }
     }
 
+    /** A failing compile, with nothing changed by it. */
     private static void wrongAt(int answer, String text) {
-        Check.due("compile() of " + text, Program.edited(4, 64, text).compile(), answer);
+        LineProgramDbg x = Program.edited(4, 64, text);
+        Check.due("compile() of " + text, x.compile(), answer);
+        Check.due("the questions after it", Look.now(x), Look.fresh(LineProgramDbg.S_EDITING, ""));
+        Check.due("what comes later", Look.later(x, true), Look.later(Program.edited(4, 64, text), true));
     }
 
     private static void findsTheFirstOfSeveral() {
@@ -352,7 +356,7 @@ public final class EditingTest {
             int count = Program.lines(texts[i]).length;
             Check.due("addLine after it", Program.add(x, "SET 2 2"), count + 1);
             Check.due("addLine without it", Program.add(untouched, "SET 2 2"), count + 1);
-            Check.due("what comes later", Look.later(x), Look.later(untouched));
+            Check.due("what comes later", Look.later(x, true), Look.later(untouched, true));
         }
         mendsAndRuns();
     }
@@ -372,8 +376,8 @@ public final class EditingTest {
 
     private static void becomesReady() {
         LineProgramDbg x = Program.ready(1, 64, Stage.TEXT);
-        Check.due("the questions after compile()", Look.now(x), Look.fresh(LineProgramDbg.S_READY, "111101111111101110"));
-        for (int line = 1; line <= Stage.COUNT; line++) {
+        Check.due("the questions after compile()", Look.now(x), Look.fresh(LineProgramDbg.S_READY, Stage.CODE));
+        for (int line = 1; line <= Stage.CODE.length(); line++) {
             Check.due("clearBreakpoint(" + line + ")", x.clearBreakpoint(line), false);
         }
         // What was asked for while editing has left no breakpoint.

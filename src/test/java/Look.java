@@ -1,3 +1,7 @@
+import java.util.ArrayList;
+import java.util.List;
+import java.util.function.Function;
+
 /** What an object shows: at once through its questions, and later through what comes of it. */
 final class Look {
     private Look() {
@@ -25,6 +29,25 @@ final class Look {
         return seen.toString();
     }
 
+    /** Each question alone, with each argument that has an answer of its own. */
+    static List<Function<LineProgramDbg, Object>> questions() {
+        List<Function<LineProgramDbg, Object>> all = new ArrayList<>();
+        all.add(x -> x.state());
+        all.add(x -> x.currentLine());
+        all.add(x -> x.depth());
+        all.add(x -> x.eventCount());
+        for (int i = 0; i <= 8; i++) {
+            int k = i;
+            all.add(x -> x.frameLine(k));
+            all.add(x -> x.variable(k));
+        }
+        for (int i = 0; i <= 33; i++) {
+            int line = i;
+            all.add(x -> x.hasCode(line));
+        }
+        return all;
+    }
+
     /** What the questions answer when there is no current event, no event was reached and all variables are 0. */
     static String fresh(int state, String code) {
         return "state " + state + " line 0 depth 0 events 0 frames" + " 0".repeat(14)
@@ -47,32 +70,47 @@ final class Look {
      * All that comes of an object later, which uses it up: the questions alone do not show lines,
      * breakpoints, depth limit and budget.
      */
-    static String later(LineProgramDbg x) {
+    static String later(LineProgramDbg x, boolean editing) {
+        return later(x, editing, true);
+    }
+
+    /** The same, told by the answers of the other calls alone, without any question. */
+    static String unasked(LineProgramDbg x, boolean editing) {
+        return later(x, editing, false);
+    }
+
+    private static String later(LineProgramDbg x, boolean editing, boolean asked) {
         StringBuilder seen = new StringBuilder();
-        closeAndCompile(x, seen);
-        stepToTheEnd(x, seen);
-        seen.append(x.restart());
-        for (int i = 0; i < 60; i++) {
-            seen.append(" cont ").append(x.cont()).append(' ').append(now(x));
+        if (editing) {
+            closeAndCompile(x, seen);
         }
+        resumeOften(x, "stepInto()", asked, seen);
+        seen.append(x.restart());
+        resumeOften(x, "cont()", asked, seen);
         for (int line : around(34)) {
             seen.append(" clear ").append(x.clearBreakpoint(line));
         }
         seen.append(x.restart());
-        stepToTheEnd(x, seen);
+        resumeOften(x, "stepInto()", asked, seen);
         return seen.toString();
     }
 
     private static void closeAndCompile(LineProgramDbg x, StringBuilder seen) {
-        for (int i = 0; i < 40 && x.state() == LineProgramDbg.S_EDITING; i++) {
-            seen.append(" compile ").append(x.compile());
+        int answer = x.compile();
+        for (int i = 0; i < 40 && answer > 0; i++) {
+            seen.append(" compile ").append(answer);
             seen.append(" add ").append(x.addLine(LineProgramDbg.K_END, 0, 0, 0));
+            answer = x.compile();
         }
+        seen.append(" compile ").append(answer);
     }
 
-    private static void stepToTheEnd(LineProgramDbg x, StringBuilder seen) {
-        for (int i = 0; i < 120; i++) {
-            seen.append(" step ").append(x.stepInto()).append(' ').append(now(x));
+    private static void resumeOften(LineProgramDbg x, String way, boolean asked, StringBuilder seen) {
+        for (int i = 0; i < 80; i++) {
+            seen.append(' ').append(way).append(' ').append(Run.resume(x, way));
+            if (asked) {
+                seen.append(' ').append(now(x));
+            }
         }
     }
 }

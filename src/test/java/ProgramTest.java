@@ -36,6 +36,7 @@ public final class ProgramTest {
         LineProgramDbg x = new LineProgramDbg(1, 64);
         String call = "addLine(" + kind + ", " + a + ", " + b + ", " + c + ")";
         Check.due(call, x.addLine(kind, a, b, c), 0);
+        Check.due("the questions after " + call, Look.now(x), Look.fresh(LineProgramDbg.S_EDITING, ""));
         Check.due("the number of the line after " + call, Program.add(x, "RET"), 1);
     }
 

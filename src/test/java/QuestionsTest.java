@@ -1,4 +1,6 @@
+import java.util.Arrays;
 import java.util.function.Function;
+import java.util.function.IntUnaryOperator;
 
 /** Promises 11 to 16 (state, line, depth, frames, variables, events): a test for each sentence that names a boundary. */
 public final class QuestionsTest {
@@ -49,6 +51,7 @@ public final class QuestionsTest {
             for (int k : new int[] {MIN, -1, 0, 1, 2, 3, 4, 8, 9, MAX}) {
                 changesNothing("frameLine(" + k + ")", x -> x.frameLine(k));
             }
+            changesNothing("every frameLine(k)", x -> each(Look.around(10), x::frameLine));
         });
     }
 
@@ -61,6 +64,7 @@ public final class QuestionsTest {
             for (int v : new int[] {MIN, -1, 0, 1, 7, 8, MAX}) {
                 changesNothing("variable(" + v + ")", x -> x.variable(v));
             }
+            changesNothing("every variable(v)", x -> each(Look.around(10), x::variable));
         });
     }
 
@@ -73,14 +77,12 @@ public final class QuestionsTest {
 
     private static void changesNothing(String what, Function<LineProgramDbg, Object> question) {
         for (Stage stage : Stage.all()) {
-            Object due = question.apply(stage.make());
-            stage.unchangedBy(what, question, due);
-            // Asked many times, it answers the same.
-            LineProgramDbg x = stage.make();
-            for (int i = 0; i < 50; i++) {
-                Check.due(what + " asked again when " + stage.name, question.apply(x).equals(due), true);
-            }
+            stage.unchangedByQuestion(what, question);
         }
+    }
+
+    private static String each(int[] arguments, IntUnaryOperator question) {
+        return Arrays.toString(Arrays.stream(arguments).map(question).toArray());
     }
 
     private static void stateThroughARun() {
@@ -148,10 +150,11 @@ public final class QuestionsTest {
         // Past an END of an IF in each of the ways there are: from the body, from the IF, from a call.
         LineProgramDbg x = Program.ready(1, 64, "SET 0 2; WHILE 0; IF 0; IF 1; CALL 0; END; CALL 0; END; OP 0 0 -1; END;"
                 + " PROC 0; IF 0; SET 1 1; END; IF 2; END; END");
-        while (x.stepInto() == Run.STEP) {
+        for (int events = 1; events <= 30; events++) {
+            Check.due("stepInto()", x.stepInto(), Run.STEP);
             Check.due("hasCode(" + x.currentLine() + ")", x.hasCode(x.currentLine()), true);
         }
-        Check.due("state()", x.state(), LineProgramDbg.S_FINISHED);
+        Run.finishes(x, "stepInto()", 30);
     }
 
     private static void lineOfTheFault() {
@@ -193,14 +196,12 @@ public final class QuestionsTest {
         int[][] pairs = {{MIN, 1}, {0, 1}, {1, 1}, {2, 2}, {3, 3}, {7, 7}, {8, 8}, {9, 8}, {MAX, 8}};
         for (int[] pair : pairs) {
             LineProgramDbg x = Program.ready(pair[0], 64, "SET 0 1; CALL 0; PROC 0; CALL 0; END");
-            int greatest = 0;
-            do {
-                greatest = Math.max(greatest, x.depth());
-                Check.due("whether depth() is at least 0", x.depth() >= 0, true);
-            } while (x.stepInto() == Run.STEP);
-            Check.due("state()", x.state(), LineProgramDbg.S_FAULTED);
-            Check.due("depth() of the fault", x.depth(), pair[1]);
-            Check.due("the greatest depth() for maxDepth " + pair[0], greatest, pair[1]);
+            for (int events = 1; events <= 2 + 2 * pair[1]; events++) {
+                x.stepInto();
+                Check.due("depth() for maxDepth " + pair[0], x.depth(), (events - 1) / 2);
+            }
+            Check.due("stepInto()", x.stepInto(), Run.FAULT);
+            Check.due("depth() of the fault for maxDepth " + pair[0], x.depth(), pair[1]);
         }
     }
 
